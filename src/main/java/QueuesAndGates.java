@@ -375,8 +375,7 @@ public final class QueuesAndGates {
     private int allBytes() {
         int sum = 0;
         for (int slot = 0; slot < SLOTS; slot++) {
-            Queue queue = queueIn(slot);
-            if (queue != null) {
+            if (queues[slot] instanceof Queue queue && queue.isHere) {
                 sum += queue.bytes;
             }
         }
@@ -386,8 +385,7 @@ public final class QueuesAndGates {
     private int allMessages() {
         int sum = 0;
         for (int slot = 0; slot < SLOTS; slot++) {
-            Queue queue = queueIn(slot);
-            if (queue != null) {
+            if (queues[slot] instanceof Queue queue && queue.isHere) {
                 sum += queue.count;
             }
         }
@@ -643,8 +641,10 @@ public final class QueuesAndGates {
     private boolean admitFirstSender() {
         for (int i = 0; i < PROCESSES; i++) {
             Proc sender = inLine(i);
-            Queue queue = sender == null ? null : sender.sendsTo();
-            if (queue != null && fits(queue, sender.parcel.size)) {
+            if (sender == null || sender.waitsFor != TO_SEND) {
+                continue;
+            }
+            if (sender.waitsOn instanceof Queue queue && fits(queue, sender.parcel.size)) {
                 goOn(sender, 0);
                 if (!handToTaker(queue, sender.parcel)) {
                     queue.append(sender.parcel);
@@ -740,16 +740,19 @@ public final class QueuesAndGates {
         int i = 0;
         for (int looks = 0; looks < PROCESSES; looks++) {
             Proc waiter = inLine(i);
-            boolean isServed = waiter != null && waiter.waitsTo(TO_STEP, set);
-            int outcome = isServed ? set.attempt(waiter.steps, waiter.number) : STOPS;
-            if (outcome == STOPS || waiter == null) {
+            if (waiter == null || !waiter.waitsTo(TO_STEP, set)) {
                 i++;
-            } else {
-                // The next one has come up to this place of the line.
-                goOn(waiter, outcome);
-                if (outcome == DONE && set.isChanged) {
-                    return true;
-                }
+                continue;
+            }
+            int outcome = set.attempt(waiter.steps, waiter.number);
+            if (outcome == STOPS) {
+                i++;
+                continue;
+            }
+            // The next one has come up to this place of the line.
+            goOn(waiter, outcome);
+            if (outcome == DONE && set.isChanged) {
+                return true;
             }
         }
         return false;
@@ -782,10 +785,6 @@ public final class QueuesAndGates {
 
         boolean waitsTo(int purpose, Thing thing) {
             return waitsFor == purpose && waitsOn == thing;
-        }
-
-        Queue sendsTo() {
-            return waitsFor == TO_SEND && waitsOn instanceof Queue queue ? queue : null;
         }
 
         int told(int answer) {
@@ -1077,7 +1076,7 @@ public final class QueuesAndGates {
         }
 
         void putUndo(int p, int counter, int undo) {
-            if (hasCounter(counter) && isWithin(p, PROCESSES - 1)) {
+            if (counter >= 0 && counter < COUNTERS && p >= 0 && p < PROCESSES) {
                 undoes[p * COUNTERS + counter] = undo;
             }
         }

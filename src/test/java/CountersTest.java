@@ -11,6 +11,8 @@ public final class CountersTest extends Check {
         servedInTurn();
         servedAnew();
         servedOnlyByOtherValues();
+        servedOnlyIfAValueIsAnother();
+        manyServed();
         servedRange();
         servedNoWaitStays();
         value();
@@ -262,6 +264,51 @@ public final class CountersTest extends Check {
         due("to 0", stepped(x, 2, 0, 0, -5, 0), 0);
         due("goes on", x.result(1), 0);
         due("last", x.counter(0, 0, 1), 1);
+    }
+
+    /** One whose UNDO was put to 0 as it waits would be RANGE, were it tried; but no VALUE is another at first. */
+    private static void servedOnlyIfAValueIsAnother() {
+        QueuesAndGates x = withProcesses(5);
+        due("set", x.set(0, 1, 3, 1023), 0);
+        due("value", x.value(0, 0, 0, 30000), 0);
+        due("undo 30000", stepped(x, 1, 0, 0, -30000, 2), 0);
+        x.step(3, 2, 5, 2);
+        due("to be undone", x.steps(3, 0), 0);
+        due("from elsewhere", stepped(x, 4, 0, 2, -5, 0), 0);
+        x.step(1, 0, 20000, 2);
+        x.step(1, 0, -20000, 0);
+        x.step(1, 0, 20000, 2);
+        x.step(1, 0, -20000, 0);
+        x.step(1, 1, -1, 0);
+        due("waits", x.steps(1, 0), PENDING);
+        due("the value that it has", x.value(0, 0, 0, 0), 0);
+        due("undo", x.undo(1, 0, 0), 0);
+        due("not served", x.result(1), PENDING);
+        x.step(2, 1, 1, 0);
+        x.step(2, 1, -1, 0);
+        due("up and down", x.steps(2, 0), 0);
+        due("not served", x.result(1), PENDING);
+        due("exit", x.exit(3), 1);
+        due("held at 0", x.counter(0, 2, 1), 3);
+        due("not served", x.result(1), PENDING);
+        due("another value", stepped(x, 2, 0, 2, 1, 0), 0);
+        due("served", x.result(1), RANGE);
+    }
+
+    private static void manyServed() {
+        QueuesAndGates x = withProcesses(16);
+        due("set", x.set(0, 1, 2, 1023), 0);
+        for (int p = 1; p < 16; p++) {
+            due("waits", stepped(x, p, 0, 0, p - 17, 0), PENDING);
+        }
+        due("count(2)", x.count(2), 15);
+        due("the last alone", x.value(0, 0, 0, 2), 0);
+        due("the last alone", x.result(15), 0);
+        due("the others", x.count(2), 14);
+        due("all of them", x.value(0, 0, 0, 32767), 0);
+        due("all of them", x.count(2), 0);
+        due("value", x.counter(0, 0, 0), 32767 - 133);
+        due("last", x.counter(0, 0, 1), 14);
     }
 
     private static void servedRange() {

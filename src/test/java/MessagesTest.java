@@ -14,6 +14,8 @@ public final class MessagesTest extends Check {
         tooBigThoughAgain();
         sendersInTurn();
         senderHandsToTaker();
+        manySenders();
+        manyTakers();
         end();
     }
 
@@ -331,5 +333,36 @@ public final class MessagesTest extends Check {
         due("bytes", x.queueOf(0, 7), 8);
         due("messages", x.queueOf(0, 9), 1);
         due("type", x.message(0, 0, 0), 9);
+    }
+
+    private static void manySenders() {
+        QueuesAndGates x = withProcesses(16);
+        due("queue", x.queue(0, 1, 1023), 0);
+        due("room", x.room(0, 0, 10), 0);
+        due("send", x.send(0, 0, 99, 10, true), 0);
+        for (int p = 1; p < 16; p++) {
+            due("waits", x.send(p, 0, p, 1, false), PENDING);
+        }
+        due("take", x.take(0, 0, 64, 99, 1), 10);
+        due("ten went in", x.queueOf(0, 9), 10);
+        due("five wait", x.queueOf(0, 10), 5);
+        due("the tenth", x.message(0, 9, 0), 10);
+        due("room", x.room(0, 0, 1000), 0);
+        due("none waits", x.count(2), 0);
+        due("the last", x.message(0, 14, 0), 15);
+    }
+
+    private static void manyTakers() {
+        QueuesAndGates x = withProcesses(16);
+        due("queue", x.queue(0, 1, 1023), 0);
+        for (int p = 1; p < 16; p++) {
+            due("waits", x.take(p, 0, p == 15 ? 64 : 0, 0, 0), PENDING);
+        }
+        due("send", x.send(0, 0, 9, 1, true), 0);
+        for (int p = 1; p < 15; p++) {
+            due("too small", x.result(p), TOOBIG);
+        }
+        due("the last has it", x.result(15), 1);
+        due("none in the row", x.count(6), 0);
     }
 }

@@ -1,6 +1,6 @@
 /** Runs of calls drawn from a fixed seed, each answer held against the model's; and now and then all that is told. */
 public final class RandomRunsTest extends Check {
-    private static final int RUNS = 4000, CALLS = 512;
+    private static final int RUNS = 2000, CALLS = 512;
     private static final int[] ODD = {-1, Integer.MIN_VALUE, Integer.MAX_VALUE, 12, 16, 64, 65, 99, 100, 256, 512, 1001, 2048, 32768, -32768, 1000001};
     private static final long[] ODD_TYPES = {Long.MIN_VALUE, Long.MIN_VALUE + 1, Long.MAX_VALUE, Long.MAX_VALUE - 1, 1L << 33};
 

@@ -11,6 +11,8 @@ public final class ThingsTest extends Check {
         removeSet();
         own();
         room();
+        notAsOneWaits();
+        fromTheStart();
         end();
     }
 
@@ -295,5 +297,64 @@ public final class ThingsTest extends Check {
         due("order", x.message(0, 1, 0), 3);
         due("order", x.message(0, 2, 0), 2);
         due("others' rooms", x.queueOf(1, 8), 256);
+    }
+
+    // promises 9 to 13: NOT of one that waits, or that has ended
+    private static void notAsOneWaits() {
+        QueuesAndGates x = withProcesses(3);
+        due("queue", x.queue(1, 1, 1023), 0);
+        due("set", x.set(1, 1, 1, 1023), 0);
+        due("take", x.take(1, 0, 1, 0, 0), PENDING);
+        due("exit", x.exit(2), 1);
+        for (int p = 1; p <= 2; p++) {
+            due("queue", x.queue(p, -1, 0), NOT);
+            due("set", x.set(p, -1, 0, 0), NOT);
+            due("remove", x.remove(p, 0, 0), NOT);
+            due("own", x.own(p, 0, 0, 100, 0, 0), NOT);
+            due("room", x.room(p, 0, 1), NOT);
+            due("send", x.send(p, 0, 0, 1, true), NOT);
+            due("take", x.take(p, 0, 65, 0, 1), NOT);
+            due("step", x.step(p, 9, 0, 0), NOT);
+            due("steps", x.steps(p, 5), NOT);
+            due("value", x.value(p, 0, 0, -1), NOT);
+        }
+        due("RESULT stays", x.result(1), PENDING);
+        due("RESULT stays", x.result(2), 0);
+        due("none removed", x.count(3) + x.count(4), 2);
+        due("room stays", x.queueOf(0, 8), 256);
+    }
+
+    /** A thing in a slot that was used before has nothing of the one before. */
+    private static void fromTheStart() {
+        QueuesAndGates x = withProcesses(3);
+        due("queue", x.queue(0, 1, 1023), 0);
+        due("set", x.set(0, 1, 8, 1023), 0);
+        due("room", x.room(0, 0, 500), 0);
+        sent(x, 0, 0, 3, 20, 9, 0);
+        due("take waits", x.take(1, 0, 9, 4, 0), PENDING);
+        due("steps", stepped(x, 0, 0, 0, 3, 2), 0);
+        due("steps wait", stepped(x, 2, 0, 7, -1, 0), PENDING);
+        due("own", x.own(0, 0, 0, 7, 7, 0), 0);
+        due("own", x.own(0, 1, 0, 7, 7, 0), 0);
+        due("remove", x.remove(0, 0, 0), 0);
+        due("remove", x.remove(0, 1, 0), 0);
+        due("no undo", x.undo(0, 0, 0), 0);
+        due("queue", x.queue(1, 0, 0600), 12);
+        due("set", x.set(2, 0, 2, 0600), 12);
+        int[] queue = {12, 0, 1, 5, 1, 5, 0600, 0, 256, 0, 0, 0};
+        for (int what = 0; what < queue.length; what++) {
+            due("queueOf(0, " + what + ")", x.queueOf(0, what), queue[what]);
+        }
+        int[] set = {12, 0, 2, 10, 2, 10, 0600, 2, 0};
+        for (int what = 0; what < set.length; what++) {
+            due("setOf(0, " + what + ")", x.setOf(0, what), set[what]);
+        }
+        due("no message", x.message(0, 0, 0), -1);
+        due("value", x.counter(0, 0, 0), 0);
+        due("last", x.counter(0, 0, 1), NONE);
+        due("none waits", x.counter(0, 0, 2), 0);
+        due("undo", x.undo(0, 0, 0), 0);
+        due("fewer counters", x.counter(0, 2, 0), NONE);
+        due("take", x.take(1, 12, 9, 0, 1), NOMESSAGE);
     }
 }
