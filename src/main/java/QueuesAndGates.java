@@ -199,7 +199,7 @@ public final class QueuesAndGates {
     // ---- what is told
 
     public int queueOf(int slot, int what) {
-        if (!isWithin(slot, SLOTS - 1) || !isWithin(what, 11)) {
+        if (!isWithin(what, 11)) {
             return OUTSIDE;
         }
         Queue queue = queueIn(slot);
@@ -235,7 +235,7 @@ public final class QueuesAndGates {
     }
 
     public int setOf(int slot, int what) {
-        if (!isWithin(slot, SLOTS - 1) || !isWithin(what, 8)) {
+        if (!isWithin(what, 8)) {
             return OUTSIDE;
         }
         CounterSet set = setIn(slot);

@@ -526,7 +526,7 @@ final class Model {
     }
 
     int queueOf(int slot, int what) {
-        if (!in(slot, 0, 11) || !in(what, 0, 11)) {
+        if (!in(what, 0, 11)) {
             return -4;
         }
         Q q = (Q) queues.get(slot);
@@ -554,7 +554,7 @@ final class Model {
     }
 
     int setOf(int slot, int what) {
-        if (!in(slot, 0, 11) || !in(what, 0, 8)) {
+        if (!in(what, 0, 8)) {
             return -4;
         }
         S s = (S) sets.get(slot);

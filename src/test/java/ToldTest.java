@@ -1,5 +1,7 @@
 /** Promises 19 to 24: what is told of queues, messages, sets, counters, undoes, and of all. */
 public final class ToldTest extends Check {
+    private static final int[] NO_SLOTS = {-1, 12, -12, 24, Integer.MIN_VALUE, Integer.MAX_VALUE};
+
     public static void main(String[] args) {
         queueOf();
         message();
@@ -36,9 +38,12 @@ public final class ToldTest extends Check {
         due("what", x.queueOf(1, 12), OUTSIDE);
         due("what", x.queueOf(1, -1), OUTSIDE);
         due("what of none", x.queueOf(2, 12), OUTSIDE);
-        due("slot", x.queueOf(12, 0), OUTSIDE);
-        due("slot", x.queueOf(-1, 0), OUTSIDE);
         due("the last slot", x.queueOf(11, 0), NONE);
+        for (int what = 0; what < 12; what++) {
+            for (int slot : NO_SLOTS) {
+                due("no such slot", x.queueOf(slot, what), NONE);
+            }
+        }
     }
 
     // promise 20
@@ -91,9 +96,12 @@ public final class ToldTest extends Check {
         due("what", x.setOf(0, 9), OUTSIDE);
         due("what", x.setOf(0, -1), OUTSIDE);
         due("what of none", x.setOf(1, 9), OUTSIDE);
-        due("slot", x.setOf(12, 0), OUTSIDE);
-        due("slot", x.setOf(-1, 0), OUTSIDE);
         due("the last slot", x.setOf(11, 0), NONE);
+        for (int what = 0; what < 9; what++) {
+            for (int slot : NO_SLOTS) {
+                due("no such slot", x.setOf(slot, what), NONE);
+            }
+        }
     }
 
     // promise 22
