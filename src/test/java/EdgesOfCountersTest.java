@@ -15,6 +15,7 @@ public final class EdgesOfCountersTest extends Check {
         valuesAsLeftByTheOnesBefore();
         undoesAsLeftByTheOnesBefore();
         stopsAheadOfRange();
+        stopsAheadOfUndo();
         allIsAsBeforeAtAStop();
         allIsAsBeforeAtARange();
         lastOfEachNamed();
@@ -27,10 +28,12 @@ public final class EdgesOfCountersTest extends Check {
         servedFromTheFirstAgain();
         servedByAll();
         servedOnOneSetAlone();
+        servedInTurnAgain();
         stepCounter();
         stepChange();
         stepWay();
         stepFull();
+        stepTheEighth();
         stepHasNoResult();
         stepUnknownAndNot();
         stepsNoneAnyMore();
@@ -48,6 +51,7 @@ public final class EdgesOfCountersTest extends Check {
         valueAccess();
         valueClearsUndoes();
         valueServes();
+        valueServesBehindAll();
         valueThatItHas();
         end();
     }
@@ -240,6 +244,18 @@ public final class EdgesOfCountersTest extends Check {
         x.step(1, 0, -1, 1);
         x.step(1, 0, -1, 0);
         due("of the first that stops", x.steps(1, 0), AGAIN);
+    }
+
+    // Terms 3: of one STEP: below 0 it STOPS, above 0 it is RANGE by its VALUE, ahead of what its UNDO would be
+    private static void stopsAheadOfUndo() {
+        QueuesAndGates x = withSet();
+        due("up", stepped(x, 2, 0, 0, TOP, 0), 0);
+        due("undo 32767", stepped(x, 1, 0, 0, -TOP, 2), 0);
+        due("it stops", stepped(x, 1, 0, 0, -1, 3), AGAIN);
+        due("it stops", stepped(x, 1, 0, 0, -1, 2), PENDING);
+        due("up", stepped(x, 2, 0, 0, 1, 0), 0);
+        due("its undo is beyond", x.result(1), RANGE);
+        due("value", x.counter(0, 0, 0), 1);
     }
 
     // Terms 3: "At the first that STOPS .. all is as before."
@@ -463,10 +479,30 @@ public final class EdgesOfCountersTest extends Check {
         due("waits", stepped(x, 1, 1, 0, -1, 0), PENDING);
         due("queue", x.queue(0, 1, 1023), 0);
         due("waits to take", x.take(2, 0, 1, 0, 0), PENDING);
+        due("waits behind them", stepped(x, 3, 0, 0, -6, 0), PENDING);
         due("up", stepped(x, 0, 0, 0, 5, 0), 0);
         due("on the other", x.result(1), PENDING);
         due("to take", x.result(2), PENDING);
         due("value stays", x.counter(0, 0, 0), 5);
+        due("up", stepped(x, 0, 0, 0, 1, 0), 0);
+        due("behind them", x.result(3), 0);
+        due("on the other", x.result(1), PENDING);
+    }
+
+    // Terms 3: "in the order in which they came to WAIT": one that waits again comes behind
+    private static void servedInTurnAgain() {
+        QueuesAndGates x = withSet();
+        due("waits", stepped(x, 1, 0, 0, -1, 0), PENDING);
+        due("waits", stepped(x, 2, 0, 0, -1, 0), PENDING);
+        due("signal", x.signal(1), 1);
+        due("waits again", stepped(x, 1, 0, 0, -1, 0), PENDING);
+        due("up", stepped(x, 0, 0, 0, 1, 0), 0);
+        due("behind", x.result(1), PENDING);
+        due("ahead", x.result(2), 0);
+        due("waits again", stepped(x, 2, 0, 0, -1, 0), PENDING);
+        due("up", x.value(0, 0, 0, 1), 0);
+        due("ahead", x.result(1), 0);
+        due("behind", x.result(2), PENDING);
     }
 
     // Promise 16: "OUTSIDE: COUNTER 0 .. 7"
@@ -521,6 +557,30 @@ public final class EdgesOfCountersTest extends Check {
         due("done", x.steps(1, 0), 0);
         due("eight of them", x.counter(0, 0, 0), 36);
         due("again from the first", x.step(1, 0, 1, 0), 1);
+    }
+
+    // Terms 3: "8 at most": the eighth is one like the others
+    private static void stepTheEighth() {
+        QueuesAndGates x = withSet();
+        for (int i = 1; i < 8; i++) {
+            due("step", x.step(1, 0, 1, 0), i);
+        }
+        due("with undo", x.step(1, 1, 5, 2), 8);
+        due("done", x.steps(1, 0), 0);
+        due("its undo", x.undo(1, 0, 1), -5);
+        due("its last", x.counter(0, 1, 1), 1);
+        for (int way = 1; way >= 0; way--) {
+            for (int i = 1; i < 8; i++) {
+                due("step", x.step(1, 0, 1, 1 - way), i);
+            }
+            due("one that stops", x.step(1, 2, -1, way), 8);
+            due("by its own way", x.steps(1, 0), way == 1 ? AGAIN : PENDING);
+        }
+        due("it stopped at the eighth", x.counter(0, 2, 2), 1);
+        due("nothing is done", x.counter(0, 0, 0), 7);
+        due("up", stepped(x, 2, 0, 2, 1, 0), 0);
+        due("all are done", x.counter(0, 0, 0), 14);
+        due("result", x.result(1), 0);
     }
 
     // Promise 16: "(No RESULT.)"
@@ -579,7 +639,12 @@ public final class EdgesOfCountersTest extends Check {
         due("pending", x.steps(0, 0), PENDING);
         due("signal", x.signal(0), 1);
         due("behind PENDING", x.steps(0, 0), INVALID);
-        due("from the first", x.step(0, 0, 0, 0), 1);
+        x.step(0, 0, -1, 0);
+        x.step(0, 7, 1, 0);
+        x.step(0, 0, 1, 0);
+        due("no counter 7", x.steps(0, 0), INVALID);
+        due("a single one", stepped(x, 0, 0, 0, -1, 0), 0);
+        due("nothing of those before", x.counter(0, 0, 0), TOP - 1);
     }
 
     // Promise 17: "but UNKNOWN, NOT"
@@ -825,6 +890,18 @@ public final class EdgesOfCountersTest extends Check {
         due("0", x.value(0, 0, 0, 0), 0);
         due("it is 0", x.result(4), 0);
         due("of the other", x.result(3), PENDING);
+    }
+
+    // Promise 18: "UNDOES of it (of all PROCESSES) are 0, LAST is p; the SET is SERVED": in this order
+    private static void valueServesBehindAll() {
+        QueuesAndGates x = withSet();
+        due("undo", stepped(x, 1, 0, 0, 3, 2), 0);
+        due("waits", stepped(x, 1, 0, 0, -4, 2), PENDING);
+        due("value", x.value(2, 0, 0, 9), 0);
+        due("served", x.result(1), 0);
+        due("its undo is of what it was served with", x.undo(1, 0, 0), 4);
+        due("it is the last", x.counter(0, 0, 1), 1);
+        due("value", x.counter(0, 0, 0), 5);
     }
 
     // Promise 18: "if it changed": the VALUE that it has serves none

@@ -4,9 +4,11 @@ public final class EdgesOfMessagesTest extends Check {
 
     public static void main(String[] args) {
         takersInTheirOrder();
+        takersInTurnAgain();
         takerForLessBytes();
         takerForAsManyBytes();
         takerForLessButCut();
+        takerForLessThoughItDoesNotFit();
         takerThatDoesNotWant();
         firstTakerHasIt();
         behindAllMessages();
@@ -77,6 +79,18 @@ public final class EdgesOfMessagesTest extends Check {
         due("none is in the row", x.count(6), 0);
     }
 
+    // Terms 2: one that waits again comes behind
+    private static void takersInTurnAgain() {
+        QueuesAndGates x = withRoom(100);
+        due("waits", x.take(1, 0, 9, 0, 0), PENDING);
+        due("waits", x.take(2, 0, 9, 0, 0), PENDING);
+        due("send", x.send(0, 0, 1, 1, true), 0);
+        due("waits again", x.take(1, 0, 9, 0, 0), PENDING);
+        due("send", x.send(0, 0, 1, 2, true), 0);
+        due("behind", x.result(1), PENDING);
+        due("ahead", x.result(2), 2);
+    }
+
     // Terms 2: "one that WANTS it, but for less bytes, and not CUT, has RESULT TOOBIG, and goes on"
     private static void takerForLessBytes() {
         QueuesAndGates x = withRoom(100);
@@ -123,6 +137,20 @@ public final class EdgesOfMessagesTest extends Check {
         due("no byte", x.areaAt(2, 0), 0);
         due("its type", x.taken(2), 9);
         due("none in the row", x.count(6), 0);
+    }
+
+    // Promise 14: "where no TAKER has it and it does not FIT": those for less bytes have TOOBIG ahead of it
+    private static void takerForLessThoughItDoesNotFit() {
+        QueuesAndGates x = withRoom(10);
+        due("send", x.send(0, 0, 1, 10, true), 0);
+        for (int p = 1; p <= 2; p++) {
+            due("waits", x.take(p, 0, 1, 2, 0), PENDING);
+            due("does not fit", x.send(3, 0, 2, 2, p == 1), p == 1 ? AGAIN : PENDING);
+            due("too big", x.result(p), TOOBIG);
+            due("no type", x.taken(p), 0);
+        }
+        due("the sender waits", x.result(3), PENDING);
+        due("one message", x.queueOf(0, 9), 1);
     }
 
     // Terms 2: one that does not WANT it has no TOOBIG, and waits on

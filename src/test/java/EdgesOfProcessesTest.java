@@ -17,13 +17,16 @@ public final class EdgesOfProcessesTest extends Check {
         exitMayWaitToTake();
         exitMayWaitToSend();
         exitMayWaitToStep();
+        exitIsNotServed();
         exitHasNoResult();
         exitedDoesNotLive();
         undoIsHeldAbove0();
         undoIsHeldBelow32768();
         undoOf0IsNone();
+        undoIsLastThoughTheValueStays();
         undoesOfTheSetAre0();
         undoServesIfAValueChanged();
+        undoServesBehindAllCounters();
         undoServesNoneElse();
         signalledTaker();
         signalledSender();
@@ -224,6 +227,21 @@ public final class EdgesOfProcessesTest extends Check {
         due("its steps are none", x.counter(0, 1, 0), 9);
     }
 
+    // Terms 4: it WAITS no more ahead of what is undone: its own STEPS are not TRIED any more
+    private static void exitIsNotServed() {
+        QueuesAndGates x = withProcesses(3);
+        due("set", x.set(0, 1, 2, 1023), 0);
+        due("undo", stepped(x, 1, 0, 0, 3, 2), 0);
+        x.step(1, 0, 0, 0);
+        x.step(1, 1, 7, 0);
+        due("waits for 0", x.steps(1, 0), PENDING);
+        due("exit", x.exit(1), 1);
+        due("undone", x.counter(0, 0, 0), 0);
+        due("result", x.result(1), CUTOFF);
+        due("its steps are not done", x.counter(0, 1, 0), 0);
+        due("nor is it the last", x.counter(0, 1, 1), NONE);
+    }
+
     // Promise 3: "(No RESULT.)"
     private static void exitHasNoResult() {
         QueuesAndGates x = withProcesses(3);
@@ -300,6 +318,23 @@ public final class EdgesOfProcessesTest extends Check {
         due("last", x.counter(0, 2, 1), 2);
     }
 
+    // Terms 4: "LAST the PROCESS", of a VALUE that is held where it was, too
+    private static void undoIsLastThoughTheValueStays() {
+        QueuesAndGates x = withProcesses(4);
+        due("set", x.set(0, 1, 2, 1023), 0);
+        due("undo -5", stepped(x, 1, 0, 0, 5, 2), 0);
+        due("to 0", stepped(x, 2, 0, 0, -5, 0), 0);
+        due("5", stepped(x, 2, 0, 1, 5, 0), 0);
+        due("undo 5", stepped(x, 1, 0, 1, -5, 2), 0);
+        due("to 32767", stepped(x, 2, 0, 1, 32767, 0), 0);
+        due("exit", x.exit(1), 1);
+        due("held", x.counter(0, 0, 0), 0);
+        due("last", x.counter(0, 0, 1), 1);
+        due("held", x.counter(0, 1, 0), 32767);
+        due("last", x.counter(0, 1, 1), 1);
+        due("undo", x.undo(1, 0, 0) + x.undo(1, 0, 1), 0);
+    }
+
     // Terms 4: "(then all its UNDOES of the SET are 0)"
     private static void undoesOfTheSetAre0() {
         QueuesAndGates x = withProcesses(4);
@@ -333,6 +368,23 @@ public final class EdgesOfProcessesTest extends Check {
         due("on set 1", x.result(3), 0);
         due("on the other counter", x.result(4), PENDING);
         due("last", x.counter(0, 0, 1), 2);
+    }
+
+    // Terms 4: the SET is SERVED behind all of its COUNTERS
+    private static void undoServesBehindAllCounters() {
+        QueuesAndGates x = withProcesses(5);
+        due("set", x.set(0, 1, 2, 1023), 0);
+        for (int c = 0; c < 2; c++) {
+            due("up", stepped(x, 0, 0, c, 1, 0), 0);
+            due("undo 1", stepped(x, 1, 0, c, -1, 2), 0);
+        }
+        x.step(2, 1, -1, 0);
+        x.step(2, 0, -1, 0);
+        due("waits for both", x.steps(2, 0), PENDING);
+        due("waits for the first alone", stepped(x, 3, 0, 0, -1, 0), PENDING);
+        due("exit", x.exit(1), 1);
+        due("both", x.result(2), 0);
+        due("the first alone", x.result(3), PENDING);
     }
 
     // Terms 4: "if any VALUE changed": one that nothing is undone for waits on, and so does one of another set

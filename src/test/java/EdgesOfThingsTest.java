@@ -52,6 +52,7 @@ public final class EdgesOfThingsTest extends Check {
         roomRules();
         roomMore();
         roomLetsIn();
+        roomBelowASender();
         roomBelowBytes();
         end();
     }
@@ -802,6 +803,23 @@ public final class EdgesOfThingsTest extends Check {
         due("for all", x.room(0, 0, 20), 0);
         due("the first", x.result(4), 0);
         due("bytes", x.queueOf(0, 7), 20);
+    }
+
+    // Promise 13: those that WAIT to SEND more than the new ROOM wait on
+    private static void roomBelowASender() {
+        QueuesAndGates x = withProcesses(3);
+        due("queue", x.queue(0, 1, 1023), 0);
+        due("room", x.room(0, 0, 10), 0);
+        due("send", x.send(0, 0, 1, 10, true), 0);
+        due("waits", x.send(1, 0, 2, 8, false), PENDING);
+        due("room", x.room(0, 0, 7), 0);
+        due("take", x.take(0, 0, 10, 1, 1), 10);
+        due("8 of 7", x.result(1), PENDING);
+        due("7 of 7", x.send(0, 0, 3, 7, true), 0);
+        due("room for 14", x.room(0, 0, 14), 0);
+        due("it is too little", x.result(1), PENDING);
+        due("room for 15", x.room(0, 0, 15), 0);
+        due("sent", x.result(1), 0);
     }
 
     // Promise 13: "ROOM of a QUEUE becomes so many": less than its bytes, too; its messages stay

@@ -1,6 +1,11 @@
-/** Runs of calls drawn from a fixed seed, each answer held against the model's; and now and then all that is told. */
+import java.util.function.LongSupplier;
+
+/**
+ * Runs of calls drawn from a fixed seed, each answer held against the model's. No object has more calls than the 512 that
+ * the document promises: the last ones of a run look at what is told, from another part of it on in each run.
+ */
 public final class RandomRunsTest extends Check {
-    private static final int RUNS = 2000, CALLS = 512;
+    private static final int RUNS = 12000, CALLS = 512, PARTS = 7;
     private static final int[] ODD = {-1, Integer.MIN_VALUE, Integer.MAX_VALUE, 12, 16, 64, 65, 99, 100, 256, 512, 1001, 2048, 32768, -32768, 1000001};
     private static final long[] ODD_TYPES = {Long.MIN_VALUE, Long.MIN_VALUE + 1, Long.MAX_VALUE, Long.MAX_VALUE - 1, 1L << 33};
 
@@ -10,15 +15,20 @@ public final class RandomRunsTest extends Check {
     private final int processes;
     private final int things;
     private final int bias;
+    private final long run;
+    private final int played;
+    private int used = 0;
     private long seed;
 
     private RandomRunsTest(long run) {
+        this.run = run;
         seed = run * 7919 + 17;
         draw(2);
         wildness = draw(3) == 0 ? 10 : 60;
         processes = 2 + draw(15);
         things = 1 + draw(13);
         bias = draw(4);
+        played = draw(3) == 0 ? CALLS - 20 : 40 + draw(400);
     }
 
     public static void main(String[] args) {
@@ -26,6 +36,16 @@ public final class RandomRunsTest extends Check {
             new RandomRunsTest(run).play();
         }
         end();
+    }
+
+    /** One call of the object and of the model, as long as the object has one left. */
+    private void ask(String call, LongSupplier got, LongSupplier want) {
+        if (used < CALLS) {
+            used++;
+            long answer = got.getAsLong();
+            long wanted = want.getAsLong();
+            due(answer == wanted ? call : call + " as call " + used + " of run " + run, answer, wanted);
+        }
     }
 
     private int draw(int below) {
@@ -48,7 +68,7 @@ public final class RandomRunsTest extends Check {
     private int id() {
         int slot = draw(things);
         if (slot < 12 && draw(8) != 0) {
-            int id = draw(2) == 0 ? x.queueOf(slot, 0) : x.setOf(slot, 0);
+            int id = draw(2) == 0 ? m.queueOf(slot, 0) : m.setOf(slot, 0);
             return odd(id);
         }
         return odd(slot + 12 * draw(3));
@@ -72,14 +92,15 @@ public final class RandomRunsTest extends Check {
     }
 
     private void play() {
-        for (int call = 0; call < CALLS; call++) {
+        for (int call = 0; used < played; call++) {
             callProcesses(call);
             if (draw(16) == 0) {
                 lookAtParts();
             }
-            if (call % 64 == 63) {
-                lookAtAll();
-            }
+        }
+        int first = draw(PARTS);
+        for (int part = 0; part < PARTS; part++) {
+            lookAtPart((first + part) % PARTS);
         }
     }
 
@@ -88,18 +109,18 @@ public final class RandomRunsTest extends Check {
         if (call < processes || kind == 0) {
             int user = odd(draw(4));
             int group = odd(draw(3));
-            due("process", x.process(user, group), m.process(user, group));
+            ask("process", () -> x.process(user, group), () -> m.process(user, group));
         } else if (kind < 2) {
             int p = draw(3) == 0 ? p() : -1;
-            due("exit", x.exit(p), m.exit(p));
+            ask("exit", () -> x.exit(p), () -> m.exit(p));
         } else if (kind < 6) {
             int p = p();
-            due("signal", x.signal(p), m.signal(p));
+            ask("signal", () -> x.signal(p), () -> m.signal(p));
         } else if (kind < 12) {
             int p = p();
             int i = n();
             int v = odd(draw(256));
-            due("area", x.area(p, i, v), m.area(p, i, v));
+            ask("area", () -> x.area(p, i, v), () -> m.area(p, i, v));
         } else if (kind < 30) {
             callThings();
         } else if (bias == 0 || bias > 1 && draw(2) == 0) {
@@ -119,26 +140,26 @@ public final class RandomRunsTest extends Check {
         switch (draw(8)) {
             case 0:
             case 1:
-                due("queue", x.queue(p, key, way), m.queue(p, key, way));
+                ask("queue", () -> x.queue(p, key, way), () -> m.queue(p, key, way));
                 break;
             case 2:
             case 3:
-                due("set", x.set(p, key, counters, way), m.set(p, key, counters, way));
+                ask("set", () -> x.set(p, key, counters, way), () -> m.set(p, key, counters, way));
                 break;
             case 4:
                 if (draw(4) == 0) {
-                    due("remove", x.remove(p, of, id), m.remove(p, of, id));
+                    ask("remove", () -> x.remove(p, of, id), () -> m.remove(p, of, id));
                 }
                 break;
             case 5:
                 int user = odd(draw(4));
                 int group = odd(draw(3));
                 int mode = odd(mode());
-                due("own", x.own(p, of, id, user, group, mode), m.own(p, of, id, user, group, mode));
+                ask("own", () -> x.own(p, of, id, user, group, mode), () -> m.own(p, of, id, user, group, mode));
                 break;
             default:
                 int bytes = odd(draw(3) == 0 ? draw(1001) : draw(80));
-                due("room", x.room(p, id, bytes), m.room(p, id, bytes));
+                ask("room", () -> x.room(p, id, bytes), () -> m.room(p, id, bytes));
         }
     }
 
@@ -149,11 +170,11 @@ public final class RandomRunsTest extends Check {
         if (draw(20) < 11) {
             long type = type();
             boolean nowait = draw(3) != 0;
-            due("send", x.send(p, id, type, n, nowait), m.send(p, id, type, n, nowait));
+            ask("send", () -> x.send(p, id, type, n, nowait), () -> m.send(p, id, type, n, nowait));
         } else {
             long wanted = wanted();
             int way = odd(draw(8) | draw(2));
-            due("take", x.take(p, id, n, wanted, way), m.take(p, id, n, wanted, way));
+            ask("take", () -> x.take(p, id, n, wanted, way), () -> m.take(p, id, n, wanted, way));
         }
     }
 
@@ -164,14 +185,14 @@ public final class RandomRunsTest extends Check {
             int counter = odd(draw(12) == 0 ? draw(8) : draw(3));
             int change = change();
             int way = odd(draw(3) == 0 ? draw(4) : draw(2) * 2);
-            due("step", x.step(p, counter, change, way), m.step(p, counter, change, way));
+            ask("step", () -> x.step(p, counter, change, way), () -> m.step(p, counter, change, way));
         }
         if (draw(20) == 0) {
             int counter = odd(draw(3));
             int v = odd(draw(3) == 0 ? draw(32768) : draw(5));
-            due("value", x.value(p, id, counter, v), m.value(p, id, counter, v));
+            ask("value", () -> x.value(p, id, counter, v), () -> m.value(p, id, counter, v));
         } else {
-            due("steps", x.steps(p, id), m.steps(p, id));
+            ask("steps", () -> x.steps(p, id), () -> m.steps(p, id));
         }
     }
 
@@ -179,45 +200,107 @@ public final class RandomRunsTest extends Check {
         int a = odd(draw(14) - 1);
         int b = odd(draw(14) - 1);
         int c = odd(draw(14) - 1);
-        due("queueOf", x.queueOf(a, b), m.queueOf(a, b));
-        due("message", x.message(a, b, c), m.message(a, b, c));
-        due("setOf", x.setOf(a, b), m.setOf(a, b));
-        due("counter", x.counter(a, b, c), m.counter(a, b, c));
-        due("undo", x.undo(a, b, c), m.undo(a, b, c));
-        due("count", x.count(a), m.count(a));
-        due("result", x.result(a), m.result(a));
-        due("areaAt", x.areaAt(a, b), m.areaAt(a, b));
-        due("taken", x.taken(a), m.taken(a));
+        ask("queueOf", () -> x.queueOf(a, b), () -> m.queueOf(a, b));
+        ask("message", () -> x.message(a, b, c), () -> m.message(a, b, c));
+        ask("setOf", () -> x.setOf(a, b), () -> m.setOf(a, b));
+        ask("counter", () -> x.counter(a, b, c), () -> m.counter(a, b, c));
+        ask("undo", () -> x.undo(a, b, c), () -> m.undo(a, b, c));
+        ask("count", () -> x.count(a), () -> m.count(a));
+        ask("result", () -> x.result(a), () -> m.result(a));
+        ask("areaAt", () -> x.areaAt(a, b), () -> m.areaAt(a, b));
+        ask("taken", () -> x.taken(a), () -> m.taken(a));
     }
 
-    private void lookAtAll() {
-        for (int what = 0; what < 7; what++) {
-            due("count", x.count(what), m.count(what));
+    private void lookAtPart(int part) {
+        switch (part) {
+            case 0:
+                for (int what = 0; what < 7; what++) {
+                    int each = what;
+                    ask("count", () -> x.count(each), () -> m.count(each));
+                }
+                break;
+            case 1:
+                lookAtProcesses();
+                break;
+            case 2:
+                lookAtAreas();
+                break;
+            case 3:
+                lookAtThings();
+                break;
+            case 4:
+                lookAtMessages();
+                break;
+            case 5:
+                lookAtCounters();
+                break;
+            default:
+                lookAtUndoes();
         }
-        for (int p = 0; p < 16; p++) {
-            due("result", x.result(p), m.result(p));
-            due("taken", x.taken(p), m.taken(p));
-            for (int i = 0; i < 64; i++) {
-                due("areaAt", x.areaAt(p, i), m.areaAt(p, i));
+    }
+
+    private void lookAtProcesses() {
+        for (int each = 0; each < processes; each++) {
+            int p = each;
+            ask("result", () -> x.result(p), () -> m.result(p));
+            ask("taken", () -> x.taken(p), () -> m.taken(p));
+        }
+    }
+
+    private void lookAtAreas() {
+        int first = draw(processes);
+        for (int k = 0; k < 4 * 64; k++) {
+            int p = (first + k / 64) % processes;
+            int i = k % 64;
+            ask("areaAt", () -> x.areaAt(p, i), () -> m.areaAt(p, i));
+        }
+    }
+
+    private void lookAtThings() {
+        for (int k = 0; k < 12 * 12; k++) {
+            int slot = k / 12;
+            int what = k % 12;
+            if (m.queueOf(slot, 0) >= 0) {
+                ask("queueOf", () -> x.queueOf(slot, what), () -> m.queueOf(slot, what));
+            }
+            if (m.setOf(slot, 0) >= 0) {
+                ask("setOf", () -> x.setOf(slot, what), () -> m.setOf(slot, what));
             }
         }
-        for (int slot = 0; slot < 12; slot++) {
-            for (int what = 0; what < 12; what++) {
-                due("queueOf", x.queueOf(slot, what), m.queueOf(slot, what));
-                due("setOf", x.setOf(slot, what), m.setOf(slot, what));
+    }
+
+    private void lookAtMessages() {
+        int first = draw(12);
+        for (int k = 0; k < 12 * 41 && used < CALLS; k++) {
+            int slot = (first + k / 41) % 12;
+            int i = k % 41;
+            for (int each = 0; each < 68 && i <= m.queueOf(slot, 9) && each - 3 <= m.message(slot, i, 1); each++) {
+                int what = each;
+                ask("message", () -> x.message(slot, i, what), () -> m.message(slot, i, what));
             }
-            for (int i = 0; i < 41 && x.queueOf(slot, 9) > 0; i++) {
-                for (int what = 0; what < 68; what++) {
-                    due("message", x.message(slot, i, what), m.message(slot, i, what));
-                }
+        }
+    }
+
+    private void lookAtCounters() {
+        int first = draw(12);
+        for (int k = 0; k < 12 * 9 * 4; k++) {
+            int slot = (first + k / 36) % 12;
+            int c = k / 4 % 9;
+            int what = k % 4;
+            if (m.setOf(slot, 7) >= c) {
+                ask("counter", () -> x.counter(slot, c, what), () -> m.counter(slot, c, what));
             }
-            for (int c = 0; c < 9; c++) {
-                for (int what = 0; what < 4; what++) {
-                    due("counter", x.counter(slot, c, what), m.counter(slot, c, what));
-                }
-                for (int p = 0; p < 16; p++) {
-                    due("undo", x.undo(p, slot, c), m.undo(p, slot, c));
-                }
+        }
+    }
+
+    private void lookAtUndoes() {
+        int first = draw(12);
+        for (int k = 0; k < 12 * 9 * 16 && used < CALLS; k++) {
+            int slot = (first + k / 144) % 12;
+            int c = k / 16 % 9;
+            int p = k % 16;
+            if (m.setOf(slot, 7) >= c && p <= processes) {
+                ask("undo", () -> x.undo(p, slot, c), () -> m.undo(p, slot, c));
             }
         }
     }
