@@ -1017,12 +1017,13 @@ public final class QueuesAndGates {
             if (gone == null) {
                 return;
             }
-            for (int k = i; k < count - 1 && k < MESSAGES - 1; k++) {
+            int last = Math.min(count, MESSAGES) - 1;
+            for (int k = i; k < last; k++) {
                 row[k] = row[k + 1];
             }
-            count--;
             // The message's object is kept behind the others, to be filled again.
-            row[count] = gone;
+            row[last] = gone;
+            count = last;
             bytes -= gone.size;
         }
 
